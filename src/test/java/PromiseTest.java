@@ -270,6 +270,16 @@ public final class PromiseTest {
         due("and changes nothing more", y.peek(4), LOW + 1);
     }
 
+    private static void promise7MovingReferences() {
+        LoopVersioner x = new LoopVersioner();
+        x.base(1, 3);
+        x.base(2, 6);
+        x.fill(0, 5, 1, 1);
+        x.statement(LoopVersioner.SUB, ref(2, 1, 0), ref(0, 1, 0), ref(1, -1, 2));
+        x.run(3);
+        dueMemory("d and u go up, w goes down", x, 1, 2, 3, 4, 5, 6, 1 - 6, 2 - 5, 3 - 4);
+    }
+
     private static void promise7Order() {
         LoopVersioner x = new LoopVersioner();
         x.fill(0, 4, 1, 1);
@@ -480,6 +490,7 @@ public final class PromiseTest {
         promise7Rounds();
         promise7Operations();
         promise7SumAndCount();
+        promise7MovingReferences();
         promise7Order();
         promise8Poke();
         promise9Fill();
