@@ -479,6 +479,25 @@ public final class PromiseTest {
         dueSame("meet", x, busy());
     }
 
+    /** The example of README.md, call by call; whoever changes one changes the other. */
+    private static void readmeExample() {
+        LoopVersioner loop = new LoopVersioner();
+        int from = 128 * 0 + 16 * (1 + 3) + 0;
+        int to = 128 * 1 + 16 * (1 + 3) + 0;
+        due("README: fill", loop.fill(0, 9, 1, 1), 0);
+        due("README: base", loop.base(1, 32), 0);
+        due("README: statement ADD", loop.statement(LoopVersioner.ADD, to, from, from), 1);
+        due("README: statement SUM", loop.statement(LoopVersioner.SUM, to, to, 1), 2);
+        due("README: run(10)", loop.run(10), 110);
+        due("README: peek(41)", loop.peek(41), 20);
+        due("README: cellOf(to, 9)", loop.cellOf(to, 9), 41);
+        due("README: spread(to, 10)", loop.spread(to, 10), 10);
+        due("README: meet(from, to, 10)", loop.meet(from, to, 10), 0);
+        due("README: meet(from, to, 40)", loop.meet(from, to, 40), 1);
+        due("README: run(41)", loop.run(41), -1);
+        due("README: the total after it", loop.total(), 110);
+    }
+
     public static void main(String[] args) {
         promise1NewObject();
         promise2Refusals();
@@ -500,6 +519,7 @@ public final class PromiseTest {
         promise14CellOf();
         promise15Spread();
         promise16Meet();
+        readmeExample();
         System.out.println(wrong == 0 ? "all promises hold" : wrong + " answers are not as due");
         if (wrong != 0) {
             System.exit(1);
